@@ -173,7 +173,8 @@ public final class TenInDrawers {
     private int alikeness(int sort, int ridges, int card, int f) {
         int other = cabinet.sorts[card][f];
         int apart = Math.abs(ridges - cabinet.ridges[card][f]);
-        return rule.alikeness(f, sort, other, apart, truth(mayBeSame(sort, other)), cabinet.near);
+        rule.name(f, sort, other, apart, truth(mayBeSame(sort, other)), cabinet.near);
+        return rule.alikeness();
     }
 
     private static boolean mayBeSame(int s, int t) {
@@ -1077,7 +1078,8 @@ public final class TenInDrawers {
         private static final int TAPE = 120, CODES = 256, STACK = 128;
         private static final int MOST_OPEN = 6, MOST_DIGITS = 4;
         private static final int END = -1, NONE = -1;
-        // A code from 0 on is a number; one below 0 is a sign of the text, told as less than 0.
+        // A code from 0 on is a number, -1 to -6 are the names, and what is less are signs of the text.
+        private static final int NAMES = 6;
         private static final int ASKS = -'?', COUNTS = -';', DENIES = -'!', TURNS = -'~';
 
         private final int[] tape = new int[TAPE];
@@ -1085,7 +1087,7 @@ public final class TenInDrawers {
         private final int[] codes = new int[CODES];
         private final int[] draft = new int[CODES];
         // What f, s, t, r, k, n stand for.
-        private final int[] named = new int[6];
+        private final int[] named = new int[NAMES];
         int fedBytes = 0;
         private int coded = 0;
         private int drafted = 0;
@@ -1216,7 +1218,7 @@ public final class TenInDrawers {
                 readNumber();
             } else if (nameIndex(sign) >= 0) {
                 place++;
-                emit(-sign);
+                emit(-1 - nameIndex(sign));
             } else if ((sign == '(' || sign == '!' || sign == '-') && depth < MOST_OPEN) {
                 place++;
                 readOpened(sign, depth + 1);
@@ -1264,67 +1266,58 @@ public final class TenInDrawers {
             }
         }
 
-        int alikeness(int f, int s, int t, int r, int k, int n) {
-            if (coded == 0) {
-                return Math.max(0, 10 * k - r);
-            }
+        /** Tells what the names stand for from now on. */
+        void name(int f, int s, int t, int r, int k, int n) {
             named[0] = f;
             named[1] = s;
             named[2] = t;
             named[3] = r;
             named[4] = k;
             named[5] = n;
-            return Math.max(0, Math.min(99, workOut()));
         }
 
-        private int workOut() {
+        /** How alike two prints are of which name() told. */
+        int alikeness() {
+            if (coded == 0) {
+                return Math.max(0, 10 * named[4] - named[3]);
+            }
             height = 0;
             int at = 0;
-            for (int steps = 0; steps < CODES && at >= 0 && at < coded; steps++) {
+            for (int steps = 0; steps < CODES && at >= 0 && at < coded && at < CODES; steps++) {
                 int code = codes[at];
                 at++;
-                if (code == COUNTS) {
-                    return pop();
-                }
-                if (code == ASKS) {
+                if (code >= 0) {
+                    push(code);
+                } else if (code >= -NAMES) {
+                    push(named[-code - 1]);
+                } else if (code == COUNTS) {
+                    return Math.max(0, Math.min(99, pop()));
+                } else if (code == ASKS) {
                     int otherwise = at < CODES ? codes[at] : coded;
                     at = pop() != 0 ? at + 1 : otherwise;
                 } else {
-                    step(code);
+                    int b = pop();
+                    int a = code == DENIES || code == TURNS ? 0 : pop();
+                    push(worked(-code, a, b));
                 }
             }
             return 0;
         }
 
-        private void step(int code) {
-            int name = nameIndex(-code);
-            if (code >= 0) {
-                push(code);
-            } else if (name >= 0) {
-                push(named[name]);
-            } else if (code == DENIES) {
-                push(truth(pop() == 0));
-            } else if (code == TURNS) {
-                push(-pop());
-            } else {
-                int b = pop();
-                int a = pop();
-                push(worked(-code, a, b));
-            }
-        }
-
         private static int worked(int sign, int a, int b) {
             switch (sign) {
-                case '|': return truth(a != 0 || b != 0);
-                case '&': return truth(a != 0 && b != 0);
-                case '<': return truth(a < b);
-                case '=': return truth(a == b);
-                case '>': return truth(a > b);
+                case '|': return a != 0 || b != 0 ? 1 : 0;
+                case '&': return a != 0 && b != 0 ? 1 : 0;
+                case '<': return a < b ? 1 : 0;
+                case '=': return a == b ? 1 : 0;
+                case '>': return a > b ? 1 : 0;
                 case '+': return a + b;
                 case '-': return a - b;
                 case '*': return a * b;
                 case '/': return b == 0 ? 0 : a / b;
                 case '%': return b == 0 ? 0 : a % b;
+                case -DENIES: return b == 0 ? 1 : 0;
+                case -TURNS: return -b;
                 default: return 0;
             }
         }

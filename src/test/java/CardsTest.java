@@ -6,6 +6,7 @@ final class CardsTest {
         newObject();
         card();
         cards();
+        cardsNotSo();
         cardsRefused();
         mendAndOf();
         feed();
@@ -93,6 +94,22 @@ final class CardsTest {
         plainCards(y, 3, 40);
         Due.is("3: full within", y.cards(3, 0, 2), 1);
         Due.is("3: count, full", y.count(0), 12);
+    }
+
+    private static void cardsNotSo() {
+        for (int at = 0; at < 20; at++) {
+            for (int wrong : new int[] {-1, at % 2 == 0 ? 6 : 31, 127, -128}) {
+                TenInDrawers x = new TenInDrawers();
+                plainCards(x, 4, 45);
+                x.put(4, 20 + at, wrong);
+                Due.is("3: not so at " + at, x.cards(4, 20, 2), 0);
+                x.put(4, 20 + at, at % 2 == 0 ? 5 : 30);
+                Due.is("3: so at " + at, x.cards(4, 20, 2), 1);
+                Due.is("3: it came", x.of(at / 2, at % 2), at % 2 == 0 ? 5 : 30);
+                Due.is("3: just one", x.cards(4, 0, 1), 1);
+                Due.is("3: and it", x.of(101, 1), 3);
+            }
+        }
     }
 
     private static void cardsRefused() {
@@ -218,6 +235,7 @@ final class CardsTest {
             Due.is("8: alike(100, " + f + ")", x.alike(100, f), due[f]);
         }
         Due.is("8: of itself", x.alike(101, 4), 10);
+        Due.is("8: card 0 of itself", x.alike(0, 0), 10);
         int[][] bad = {{2, 0}, {200, 0}, {1, 10}, {1, -1}, {-1, 0}, {12, 0}, {Integer.MAX_VALUE, 0}, {Integer.MIN_VALUE, 0}, {99, 1}};
         for (int[] b : bad) {
             Due.is("8: alike(" + b[0] + ", " + b[1] + ")", x.alike(b[0], b[1]), -1);

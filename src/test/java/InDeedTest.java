@@ -8,6 +8,7 @@ final class InDeedTest {
         imageAndBack();
         undoAndRedo();
         fortyChanges();
+        fortyUnlikeChanges();
         Due.end("InDeedTest");
     }
 
@@ -170,5 +171,30 @@ final class InDeedTest {
         x.mend(5, 1, 3);
         Due.is("49: 31 changes", x.count(3), 31);
         Due.is("39: none behind", x.redo(), -5);
+    }
+
+    /** 55 changes of unlike places; the 40 latest are taken back and done again one by one. */
+    private static void fortyUnlikeChanges() {
+        TenInDrawers x = Due.cabinet(4);
+        int[] number = new int[55];
+        int[] what = new int[55];
+        int[] was = new int[55];
+        int[] is = new int[55];
+        for (int i = 0; i < 55; i++) {
+            what[i] = i % 7 == 0 ? 2 : i % 2;
+            number[i] = what[i] == 2 ? 0 : 100 * (i % 4) + i * 3 % 10;
+            was[i] = x.of(number[i], what[i]);
+            is[i] = what[i] == 0 ? (was[i] + 1 + i % 5) % 6 : what[i] == 1 ? (was[i] + 1 + i) % 31 : (was[i] + 4) % 10;
+            Due.is("4: was", x.mend(number[i], what[i], is[i]), was[i]);
+        }
+        for (int i = 54; i >= 15; i--) {
+            Due.is("38: undone", x.undo(), i - 15);
+            Due.is("38: as it was", x.of(number[i], what[i]), was[i]);
+        }
+        Due.is("38: no more", x.undo(), -5);
+        for (int i = 15; i < 55; i++) {
+            Due.is("39: done again", x.redo(), 54 - i);
+            Due.is("39: as it is", x.of(number[i], what[i]), is[i]);
+        }
     }
 }

@@ -54,6 +54,9 @@ final class ShelvesTest {
         x.put(0, 7, 5);
         Due.is("44: a new one", x.row(0, 3, 8), 1);
         Due.is("44: 0 at first again", x.element(0, 7), 0);
+        x.put(0, 0, 4);
+        x.row(0, 3, 1);
+        Due.is("44: 0 at first again, at 0", x.element(0, 0), 0);
     }
 
     private static void putAndElement() {
@@ -160,6 +163,17 @@ final class ShelvesTest {
         Due.is("48: nothing, kind 8", x.taken(0, 8), -1);
         x.row(0, 0, 1);
         Due.is("48: a row", x.taken(0, 0), -12);
+        for (int kind = 0; kind < 8; kind++) {
+            x.body(7 - kind);
+        }
+        Due.is("48: a row, with bodies", x.taken(0, 0), -12);
+        for (int body = 0; body < 8; body++) {
+            x.keep(body % 6, body);
+            Due.is("48: of many bodies", x.taken(body % 6, 0), 7 - body);
+        }
+        x.row(2, 0, 1);
+        Due.is("48: a row for a print", x.taken(2, 0), -12);
+        Due.is("48: another shelf's", x.taken(3, 0), 4);
     }
 
     private static void count() {
