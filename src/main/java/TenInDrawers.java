@@ -60,7 +60,7 @@ public final class TenInDrawers {
     }
 
     public int cards(int shelf, int i, int n) {
-        if (!shelves.has(shelf) || i < 0 || n < 1 || n > 3) {
+        if (!shelves.has(shelf) || n < 1 || n > 3) {
             return BAD;
         }
         int refusal = shelves.rowRefusal(shelf, BYTES);
@@ -78,7 +78,7 @@ public final class TenInDrawers {
     }
 
     private boolean cardComes(int shelf, long from) {
-        if (cabinet.held >= CARDS || from + 2 * FINGERS > shelves.lengthOf(shelf)) {
+        if (cabinet.held >= CARDS || from < 0 || from + 2 * FINGERS > shelves.lengthOf(shelf)) {
             return false;
         }
         int start = (int) from;
@@ -918,11 +918,8 @@ public final class TenInDrawers {
     }
 
     public long element(int shelf, int i) {
-        int refusal = placeRefusal(shelf, i);
-        if (refusal == BAD) {
-            return Long.MIN_VALUE;
-        }
-        return refusal != 0 ? refusal : shelves.valueAt(shelf, i);
+        // An element may be -1 or -11 itself, so no refusal is answered by its own number.
+        return placeRefusal(shelf, i) == 0 ? shelves.valueAt(shelf, i) : Long.MIN_VALUE;
     }
 
     public int shift(int shelf, int i, int other, int j, int n) {

@@ -6,6 +6,7 @@ final class CardsTest {
         newObject();
         card();
         cards();
+        cardsFromBelow();
         cardsNotSo();
         cardsRefused();
         mendAndOf();
@@ -33,7 +34,8 @@ final class CardsTest {
         Due.is("1: back", x.back(), -5);
         Due.is("1: trace(0)", x.trace(0), -1);
         for (int s = 0; s < 6; s++) {
-            Due.is("1: element(" + s + ", 0)", x.element(s, 0), -11);
+            Due.is("1: element(" + s + ", 0)", x.element(s, 0), Long.MIN_VALUE);
+            Due.is("1: put(" + s + ", 0, 1)", x.put(s, 0, 1), -11);
         }
     }
 
@@ -118,16 +120,38 @@ final class CardsTest {
         Due.is("3: shelf 6", x.cards(6, 0, 1), -1);
         Due.is("3: none", x.cards(0, 0, 0), -1);
         Due.is("3: four", x.cards(0, 0, 4), -1);
-        Due.is("3: place -1", x.cards(0, -1, 1), -1);
         x.body(0);
         x.keep(0, 0);
         Due.is("3: a print", x.cards(0, 0, 1), -12);
         Due.is("3: a print, four", x.cards(0, 0, 4), -1);
+        Due.is("3: a print, place -1", x.cards(0, -1, 1), -12);
         for (int sort = 1; sort <= 4; sort++) {
             x.row(1, sort, 20);
             Due.is("3: a row of " + sort, x.cards(1, 0, 1), -12);
+            Due.is("3: a row of " + sort + ", place -1", x.cards(1, -1, 1), -12);
         }
         Due.is("3: none came", x.count(0), 0);
+    }
+
+    private static void cardsFromBelow() {
+        int[] below = {-1, -2, -19, -20, -21, -40, -41, -60, Integer.MIN_VALUE + 20, Integer.MIN_VALUE};
+        TenInDrawers x = new TenInDrawers();
+        plainCards(x, 0, 60);
+        x.row(1, 0, 0);
+        for (int i : below) {
+            for (int n = 1; n <= 3; n++) {
+                String call = "(.., " + i + ", " + n + ")";
+                Due.is("3: a row ends there, cards" + call, x.cards(0, i, n), 0);
+                Due.is("3: an empty row, cards" + call, x.cards(1, i, n), 0);
+                Due.is("3: no row, cards" + call, x.cards(2, i, n), 0);
+            }
+            Due.is("3: shelf -1, place " + i, x.cards(-1, i, 1), -1);
+            Due.is("3: shelf 6, place " + i, x.cards(6, i, 1), -1);
+            Due.is("3: none, place " + i, x.cards(0, i, 0), -1);
+            Due.is("3: four, place " + i, x.cards(2, i, 4), -1);
+        }
+        Due.is("3: none came from below", x.count(0), 0);
+        Due.is("3: from 0 they come", x.cards(0, 0, 3), 3);
     }
 
     private static void mendAndOf() {

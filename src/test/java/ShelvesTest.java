@@ -6,6 +6,8 @@ final class ShelvesTest {
         keep();
         row();
         putAndElement();
+        elementRefused();
+        elementLikeRefusal();
         lowestBits();
         shift();
         shiftRefused();
@@ -30,9 +32,9 @@ final class ShelvesTest {
         Due.is("43: nothing there", x.taken(0, 0), -11);
         Due.row(x, 5, 0, 3);
         Due.is("43: a print for a row", x.keep(5, 0), 1);
-        Due.is("43: no row then", x.element(5, 0), -12);
+        Due.is("43: no row then", x.put(5, 0, 1), -12);
         Due.is("43: nothing for it", x.keep(5, -1), 1);
-        Due.is("43: nothing then", x.element(5, 0), -11);
+        Due.is("43: nothing then", x.put(5, 0, 1), -11);
     }
 
     private static void row() {
@@ -40,10 +42,10 @@ final class ShelvesTest {
         for (int sort = 0; sort < 5; sort++) {
             Due.is("44: 60 of " + sort, x.row(sort, sort, 60), 1);
             Due.is("44: 0 at first", x.element(sort, 59), 0);
-            Due.is("44: no 60", x.element(sort, 60), -13);
+            Due.is("44: no 60", x.put(sort, 60, 1), -13);
         }
         Due.is("44: none", x.row(5, 0, 0), 1);
-        Due.is("44: none there", x.element(5, 0), -13);
+        Due.is("44: none there", x.put(5, 0, 1), -13);
         int[][] bad = {{-1, 0, 1}, {6, 0, 1}, {0, 5, 1}, {0, -1, 1}, {0, 0, 61}, {6, 0, -1}, {0, 5, -1}, {0, 0, Integer.MAX_VALUE}};
         for (int[] b : bad) {
             Due.is("44: row(" + b[0] + ", " + b[1] + ", " + b[2] + ")", x.row(b[0], b[1], b[2]), -1);
@@ -73,9 +75,34 @@ final class ShelvesTest {
             {2, Integer.MAX_VALUE, -13}, {2, Integer.MIN_VALUE, -13}};
         for (int[] b : none) {
             Due.is("45: put(" + b[0] + ", " + b[1] + ", 1)", x.put(b[0], b[1], 1), b[2]);
-            Due.is("46: element(" + b[0] + ", " + b[1] + ")", x.element(b[0], b[1]), b[2] == -1 ? NONE : b[2]);
         }
-        Due.is("46: still", x.element(2, 0), 77);
+        Due.is("45: still", x.element(2, 0), 77);
+    }
+
+    private static void elementRefused() {
+        TenInDrawers x = new TenInDrawers();
+        x.body(0);
+        x.keep(1, 0);
+        x.row(2, 3, 4);
+        x.row(3, 0, 0);
+        int[][] none = {{-1, 0}, {6, 0}, {Integer.MIN_VALUE, 0}, {Integer.MAX_VALUE, -1}, {0, 0}, {0, -1}, {0, 60}, {5, 59}, {1, 0},
+            {1, -1}, {1, 99}, {2, 4}, {2, -1}, {2, 60}, {2, Integer.MAX_VALUE}, {2, Integer.MIN_VALUE}, {3, 0}, {3, -1}};
+        for (int[] b : none) {
+            Due.is("46: element(" + b[0] + ", " + b[1] + ")", x.element(b[0], b[1]), NONE);
+        }
+    }
+
+    /** What looks like a refusal is an element like all others, where there is one. */
+    private static void elementLikeRefusal() {
+        long[] vs = {-1, -2, -3, -5, -11, -12, -13, -14, NONE};
+        for (int sort = 0; sort < 4; sort++) {
+            TenInDrawers x = new TenInDrawers();
+            Due.row(x, sort, sort, vs);
+            for (int i = 0; i < 8; i++) {
+                Due.is("46: an element of " + sort, x.element(sort, i), vs[i]);
+            }
+            Due.is("46: the least of " + sort, x.element(sort, 8), sort == 3 ? NONE : 0);
+        }
     }
 
     private static void lowestBits() {
