@@ -6,6 +6,7 @@ final class CardEdgesTest {
         twelveCards();
         rowsOfEachLength();
         placesOfARow();
+        placesWhereAllIsSo();
         cardsTillFull();
         cardsRefused();
         numbers();
@@ -103,6 +104,20 @@ final class CardEdgesTest {
         Due.is("3: RIDGES 30", x.of(309, 1), 30);
         Due.is("3: it is no change", x.count(3), 0);
         Due.is("3: not FILED", x.of(3, 10), VOID);
+    }
+
+    /** Each byte would do as a SORT and as RIDGES: only where the row ends tells what comes. */
+    private static void placesWhereAllIsSo() {
+        for (int i = -61; i <= 61; i++) {
+            TenInDrawers x = new TenInDrawers();
+            x.row(0, 0, 60);
+            for (int k = 0; k < 60; k++) {
+                x.put(0, k, 1);
+            }
+            int due = i < 0 ? 0 : (60 - Math.min(i, 60)) / 20;
+            Due.is("3: from place " + i + " on", x.cards(0, i, 3), due);
+            Due.is("3: so many from place " + i, x.count(0), due);
+        }
     }
 
     private static void cardsTillFull() {

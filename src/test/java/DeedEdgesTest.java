@@ -233,6 +233,9 @@ final class DeedEdgesTest {
         for (int i = 0; i < calls.length; i++) {
             TenInDrawers x = Due.cabinet(1);
             x.row(0, 0, 20);
+            x.file(0, 4);
+            x.image();
+            x.body(0);
             x.mend(0, 0, 2);
             x.mend(9, 1, 11);
             x.undo();
