@@ -117,6 +117,11 @@ final class CardEdgesTest {
             int due = i < 0 ? 0 : (60 - Math.min(i, 60)) / 20;
             Due.is("3: from place " + i + " on", x.cards(0, i, 3), due);
             Due.is("3: so many from place " + i, x.count(0), due);
+            // What is ahead of the place, and what is behind the cards wanted, need not be so.
+            for (int k = 0; k < 60; k++) {
+                x.put(0, k, k >= 20 && k < 40 ? 1 : 99);
+            }
+            Due.is("3: just from place 20, just one", x.cards(0, 20, 1), 1);
         }
     }
 
@@ -357,7 +362,23 @@ final class CardEdgesTest {
         Due.is("7: THE LAW stays", x.alike(1, 0), 55);
         Due.is("7: no TEXT", x.law(), -100);
         Due.is("7: THE LAW stays", x.alike(1, 0), 55);
+        lawBehindLongerOnes();
         Due.is("7: the first byte with which none goes on, not the last", Due.law(x, "1))x"), -101);
+    }
+
+    /** Of a law that was, nothing counts any more, though it had more lines. */
+    private static void lawBehindLongerOnes() {
+        String[] longer = {"1;5;1+1;6;7", "1?2;3;4;5;6;7;8;9", "f+9*9;s+t;88;77;66", "0?1;0?2;0?3;0?4;55;44;33", "0?1;2+3+4+5+6+7;8+9", "1+-"};
+        for (String was : longer) {
+            for (String is : new String[] {"0?2", "0?2;0?3", "0", "0?2+3", "0?1?", "s=3?9", "!1?7"}) {
+                TenInDrawers x = Due.cabinet(2);
+                Due.law(x, "33");
+                Due.law(x, was);
+                int before = x.alike(1, 0);
+                boolean stands = Due.law(x, is) == 1;
+                Due.is("7: " + is + " behind " + was, x.alike(1, 0), stands ? 0 : before);
+            }
+        }
     }
 
     private static void withoutText() {
